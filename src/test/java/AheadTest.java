@@ -53,6 +53,8 @@ public final class AheadTest {
         EXPECT.equal("40: today", hall.worstDay(1), 4);
         EXPECT.equal("40: today", hall.worstDay(8), 4);
         EXPECT.equal("40: from today on", hall.worstDay(9), 12);
+        hall.endDays(7);
+        EXPECT.equal("40: tomorrow", hall.worstDay(30), 12);
         EXPECT.equal("40: no walls", Halls.of("member 1 1").worstDay(365), 0);
         ClimbingHall late = Halls.of("wall 9 0 60");
         for (int i = 0; i < 166; i++) {
@@ -149,6 +151,8 @@ public final class AheadTest {
         EXPECT.fails("44: 366 days", Expect.ARGUMENT, () -> hall.checksNeeded(1, 366));
         EXPECT.fails("44: days first", Expect.ARGUMENT, () -> hall.checksNeeded(0, 0));
         EXPECT.fails("44: none of the size", Expect.NO_ELEMENT, () -> hall.checksNeeded(0, 1));
+        ClimbingHall first = Halls.of("harness 1 10;harness 1 5");
+        EXPECT.equal("44: the longest is the first", first.checksNeeded(1, 21), 2);
         hall.endDays(12);
         EXPECT.equal("44: today", hall.checksNeeded(1, 1), 1);
         hall.check(0, true);
@@ -205,6 +209,7 @@ public final class AheadTest {
         EXPECT.equal("46: the next level", hall.ladder(0, 3), 9);
         EXPECT.fails("46: no course", Expect.NO_ELEMENT, () -> hall.ladder(0, 4));
         EXPECT.fails("46: no course on the way", Expect.NO_ELEMENT, () -> hall.ladder(0, 5));
+        EXPECT.equal("46: one course", Halls.of("member 1 0;course 1 1 8").ladder(0, 1), 8);
         EXPECT.equal("46: from its own level on", hall.ladder(1, 3), 9);
         EXPECT.equal("46: its own level", hall.ladder(1, 2), 0);
         EXPECT.equal("46: below its own level", hall.ladder(1, 0), 0);

@@ -5,6 +5,7 @@ public final class ChangesTest {
     public static void main(String[] args) {
         promise6SetRoute();
         promise6Room();
+        promise6InPlaceOfTheLast();
         promise7RemoveRoute();
         promise7ArchiveKeepsThirty();
         promise8Climb();
@@ -58,6 +59,26 @@ public final class ChangesTest {
         EXPECT.fails("6: the 25th", Expect.STATE, () -> hall.setRoute(4, 1));
         hall.removeRoute(0);
         EXPECT.equal("6: room again", hall.setRoute(4, 1), 23);
+        hall.endDays(60);
+        EXPECT.equal("6: room for all", hall.endDays(1), 24);
+        EXPECT.equal("6: the first again", hall.setRoute(4, 1), 0);
+    }
+
+    private static void promise6InPlaceOfTheLast() {
+        ClimbingHall hall = Halls.of("wall 3 0 60;wall 3 0 60;wall 3 0 60;wall 3 0 60;wall 3 0 60;"
+                + "harness 1 60;member 1 0");
+        for (int route = 0; route < 24; route++) {
+            hall.setRoute(route / 5, 9);
+        }
+        hall.lend(0, 0);
+        hall.climb(0, 23);
+        hall.vote(0, 23, 9);
+        hall.removeRoute(23);
+        hall.setRoute(4, 9);
+        for (int what = 2; what < 7; what++) {
+            EXPECT.equal("6: nothing is left of the old one, part " + what, hall.route(23, what), 0);
+        }
+        EXPECT.fails("6: nor its climbers", Expect.STATE, () -> hall.vote(0, 23, 9));
     }
 
     private static void promise7RemoveRoute() {

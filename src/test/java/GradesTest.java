@@ -143,6 +143,13 @@ public final class GradesTest {
         three.vote(2, 1, 8);
         EXPECT.equal("35: any two of three", three.disputed(), 0);
         ClimbingHall one = Halls.withVotes("", 12, 29);
+        ClimbingHall low = Halls.withVotes("", 12, 0, 0);
+        low.setRoute(0, 3);
+        Halls.climb(low, 0, 1, 1);
+        Halls.climb(low, 1, 1, 1);
+        low.vote(0, 1, 29);
+        low.vote(1, 1, 28);
+        EXPECT.equal("35: by the difference alone", low.disputed(), 1);
         EXPECT.fails("35: one vote", Expect.NO_ELEMENT, () -> one.disputed());
         EXPECT.fails("35: no routes", Expect.NO_ELEMENT, () -> new ClimbingHall().disputed());
     }
@@ -173,6 +180,7 @@ public final class GradesTest {
         EXPECT.equal("37: one", hall.climbsLeft(0), 1);
         hall.climb(0, 0);
         EXPECT.equal("37: worn", hall.climbsLeft(0), 0);
+        EXPECT.equal("37: WEAR 1", Halls.withVotes("rules 0 0 1;", 29).climbsLeft(0), 1);
         expectRoute("37: route", hall, hall::climbsLeft);
         hall.setRoute(0, 9);
         hall.setRoute(0, 29);

@@ -142,6 +142,10 @@ public final class PartsTest {
         int most = Integer.MAX_VALUE;
         int least = Integer.MIN_VALUE;
         EXPECT.fails("29: first product", Expect.ARITHMETIC, () -> hall.bill(1, most, least / 2));
+        EXPECT.fails("29: first product, though the sum is an int", Expect.ARITHMETIC,
+                () -> hall.bill(1, 1_000_000_000, -1_000_000_000));
+        EXPECT.fails("29: second product, though the sum is an int", Expect.ARITHMETIC,
+                () -> hall.bill(1, -500_000_000, 1_500_000_000));
         EXPECT.fails("29: second product", Expect.ARITHMETIC, () -> hall.bill(0, least, most));
         EXPECT.fails("29: least product", Expect.ARITHMETIC, () -> hall.bill(1, least, 0));
         EXPECT.fails("29: the sum", Expect.ARITHMETIC, () -> hall.bill(0, most, 1));

@@ -96,6 +96,10 @@ public final class SetupTest {
         EXPECT.equal("3: the rest stands", hall.errorPosition(), -1);
         EXPECT.equal("3: append goes on from there", hall.append(';' << 24, 0, 0, 0, 0), 22);
         EXPECT.equal("3: an end too early", hall.errorPosition(), 22);
+        hall.truncate(0);
+        Halls.put(hall, "member 1 0");
+        hall.truncate(9);
+        EXPECT.equal("3: what was cut off is not read", hall.errorPosition(), 9);
     }
 
     private static void expectError(String text, int due) {
@@ -123,6 +127,12 @@ public final class SetupTest {
         expectError("wall 12 0;", 9);
         expectError("wal 12 0 7", 0);
         expectError("wallx 12 0 7", 0);
+        expectError("wallz 12 0 7", 0);
+        expectError("xall 12 0 7", 0);
+        expectError("wall` 12 0 7", 4);
+        expectError("wall{ 12 0 7", 4);
+        expectError("wall /12 0 7", 5);
+        expectError("wall 12: 0 7", 7);
         expectError(" Wall 12 0 7", 1);
         expectError("wall 12 0 7 7", 12);
         expectError("wall 12 0 7wall 3 0 1", 11);
@@ -236,7 +246,12 @@ public final class SetupTest {
         EXPECT.fails("5: nothing to undo", Expect.STATE, () -> hall.undo());
         EXPECT.fails("5: no saved copy", Expect.STATE, () -> hall.restore());
         Halls.put(hall, "member 1 1");
+        hall.errorPosition();
         EXPECT.equal("5: no walls", hall.load(), 0);
+        int[] alone = {0, 0, 0, 1, 0, 0};
+        for (int what = 0; what < alone.length; what++) {
+            EXPECT.equal("5: a member alone, count " + what, hall.count(what), alone[what]);
+        }
         EXPECT.equal("5: usual TRIM", hall.count(7), 20);
         EXPECT.equal("5: usual SETTER", hall.count(8), 2);
         EXPECT.equal("5: usual WEAR", hall.count(9), 50);
