@@ -181,6 +181,11 @@ public final class GradesTest {
         hall.climb(0, 0);
         EXPECT.equal("37: worn", hall.climbsLeft(0), 0);
         EXPECT.equal("37: WEAR 1", Halls.withVotes("rules 0 0 1;", 29).climbsLeft(0), 1);
+        ClimbingHall beyond = Halls.withVotes("rules 0 0 4;", 29, 29);
+        beyond.climb(0, 0);
+        EXPECT.equal("37: beyond WEAR", beyond.route(0, 3), 6);
+        beyond.vote(0, 0, 0);
+        EXPECT.equal("37: worn, though a climb would take less now", beyond.climbsLeft(0), 0);
         expectRoute("37: route", hall, hall::climbsLeft);
         hall.setRoute(0, 9);
         hall.setRoute(0, 29);
