@@ -33,6 +33,16 @@ public final class GradesTest {
         EXPECT.equal("30: above half", Halls.withVotes("rules 0 0 9;", 0, 5, 4, 5).grade(0), 5);
         EXPECT.equal("30: its setter counts twice", Halls.withVotes("", 12, 18).grade(0), 14);
         EXPECT.equal("30: ten times", Halls.withVotes("rules 0 10 9;", 0, 22).grade(0), 2);
+        ClimbingHall all = Halls.withVotes("rules 0 0 50;", 0,
+                29, 29, 29, 29, 29, 29, 29, 29, 29, 29, 29, 29);
+        EXPECT.equal("30: twelve members", all.grade(0), 29);
+        EXPECT.equal("24: twelve votes", all.route(0, 5), 12);
+        all.setRoute(0, 1);
+        all.climb(0, 1);
+        all.climb(11, 1);
+        all.vote(0, 1, 28);
+        all.vote(11, 1, 29);
+        EXPECT.equal("35: twelve votes alike", all.disputed(), 1);
         EXPECT.equal("30: least", Halls.withVotes("", 0, 0).grade(0), 0);
         EXPECT.equal("30: greatest", Halls.withVotes("", 29, 29).grade(0), 29);
     }
