@@ -36,6 +36,13 @@ final class Halls {
         return hall.errorPosition();
     }
 
+    /** Ends so many days, by as few calls as can be. */
+    static void endDays(ClimbingHall hall, int days) {
+        for (int left = days; left > 0; left -= 60) {
+            hall.endDays(Math.min(left, 60));
+        }
+    }
+
     /** Lets a member climb a route so many times. */
     static void climb(ClimbingHall hall, int member, int route, int times) {
         for (int i = 0; i < times; i++) {
@@ -63,47 +70,91 @@ final class Halls {
         return hall;
     }
 
+    /** A hall of as many of everything as a text can say, with 24 routes and an archive of 30. */
+    static ClimbingHall full() {
+        ClimbingHall hall = of("rules 10 1 200;" + many("wall 3 0 2", 8) + ";"
+                + many("harness 0 90", 12) + ";harness 0 365;harness 0 1;harness 0 9;"
+                + many("member 0 0", 6) + ";" + many("member 0 4", 6) + ";"
+                + many("course 1 12 0", 7) + ";course 5 6 0");
+        setRoutes(hall, 0, 24);
+        hall.endDays(3);
+        setRoutes(hall, 0, 24);
+        for (int removed = 0; removed < 6; removed++) {
+            hall.removeRoute(18);
+        }
+        setRoutes(hall, 18, 24);
+        hall.save();
+        hall.check(14, false);
+        for (int member = 0; member < 12; member++) {
+            hall.lend(member, member);
+            hall.climb(member, 23);
+            hall.vote(member, 23, 2 * member);
+            hall.enroll(member, member < 6 ? member : 7);
+        }
+        put(hall, "wall 3 0 1");
+        put(hall, " ".repeat(590));
+        return hall;
+    }
+
+    /** Sets the routes of these numbers, five on a wall. */
+    private static void setRoutes(ClimbingHall hall, int from, int behind) {
+        for (int route = from; route < behind; route++) {
+            hall.setRoute(route / 5, route);
+        }
+    }
+
+    /** A statement so many times, with semicolons between. */
+    static String many(String statement, int times) {
+        return String.join(";", java.util.Collections.nCopies(times, statement));
+    }
+
+    static final int PORTIONS = 4;
+
     /** All answers of the queries that need no choice of numbers beyond the parts, as one text. */
     static String picture(ClimbingHall hall) {
         StringBuilder all = new StringBuilder();
-        for (int what = 0; what < 10; what++) {
-            all.append(hall.count(what)).append(' ');
-        }
-        for (int wall = 0; wall < hall.count(0); wall++) {
-            for (int what = 0; what < 6; what++) {
-                all.append(hall.wall(wall, what)).append(' ');
-            }
-        }
-        for (int route = 0; route < hall.count(1); route++) {
-            for (int what = 0; what < 7; what++) {
-                all.append(hall.route(route, what)).append(' ');
-            }
-            all.append('g').append(hall.grade(route)).append(' ');
-            for (int member = 0; member < hall.count(3); member++) {
-                all.append(voteOrNone(hall, member, route)).append(' ');
-            }
-        }
-        for (int harness = 0; harness < hall.count(2); harness++) {
-            for (int what = 0; what < 6; what++) {
-                all.append(hall.harness(harness, what)).append(' ');
-            }
-        }
-        for (int member = 0; member < hall.count(3); member++) {
-            for (int what = 0; what < 6; what++) {
-                all.append(hall.member(member, what)).append(' ');
-            }
-        }
-        for (int course = 0; course < hall.count(4); course++) {
-            for (int what = 0; what < 4; what++) {
-                all.append(hall.course(course, what)).append(' ');
-            }
-        }
-        for (int index = 0; index < hall.count(5); index++) {
-            for (int what = 0; what < 4; what++) {
-                all.append(hall.archived(index, what)).append(' ');
-            }
+        for (int portion = 0; portion < PORTIONS; portion++) {
+            all.append(portion(hall, portion));
         }
         return all.toString();
+    }
+
+    /** A part of the picture, for which also a full hall is asked fewer than 300 times. */
+    static String portion(ClimbingHall hall, int portion) {
+        StringBuilder all = new StringBuilder();
+        switch (portion) {
+            case 0:
+                for (int what = 0; what < 10; what++) {
+                    all.append(hall.count(what)).append(' ');
+                }
+                addParts(all, hall.count(0), 6, hall::wall);
+                addParts(all, hall.count(2), 6, hall::harness);
+                addParts(all, hall.count(3), 6, hall::member);
+                addParts(all, hall.count(4), 4, hall::course);
+                break;
+            case 1:
+                addParts(all, hall.count(1), 7, hall::route);
+                addParts(all, hall.count(1), 1, (route, what) -> hall.grade(route));
+                break;
+            case 2:
+                addParts(all, hall.count(1), hall.count(3),
+                        (route, member) -> voteOrNone(hall, member, route));
+                break;
+            default:
+                addParts(all, hall.count(5), 4, hall::archived);
+                break;
+        }
+        return all.toString();
+    }
+
+    private static void addParts(StringBuilder all, int rows, int parts,
+            java.util.function.IntBinaryOperator part) {
+        for (int row = 0; row < rows; row++) {
+            for (int what = 0; what < parts; what++) {
+                all.append(part.applyAsInt(row, what)).append(' ');
+            }
+            all.append('/');
+        }
     }
 
     private static int voteOrNone(ClimbingHall hall, int member, int route) {

@@ -198,8 +198,8 @@ public final class SetupTest {
         expectMost("harness 0 1", 15);
         expectMost("member 0 0", 12);
         expectMost("course 1 1 0", 8);
-        String all = many("wall 3 0 1", 8) + ";" + many("harness 0 1", 15) + ";"
-                + many("member 0 0", 12) + ";" + many("course 1 1 0", 8) + ";rules 0 0 1";
+        String all = Halls.many("wall 3 0 1", 8) + ";" + Halls.many("harness 0 1", 15) + ";"
+                + Halls.many("member 0 0", 12) + ";" + Halls.many("course 1 1 0", 8) + ";rules 0 0 1";
         expectError(all, -1);
         ClimbingHall hall = Halls.of(all);
         EXPECT.equal("4: walls", hall.count(0), 8);
@@ -208,16 +208,8 @@ public final class SetupTest {
         EXPECT.equal("4: courses", hall.count(4), 8);
     }
 
-    private static String many(String statement, int times) {
-        StringBuilder text = new StringBuilder(statement);
-        for (int i = 1; i < times; i++) {
-            text.append(';').append(statement);
-        }
-        return text.toString();
-    }
-
     private static void expectMost(String statement, int most) {
-        String full = many(statement, most);
+        String full = Halls.many(statement, most);
         expectError(full, -1);
         expectError(full + "; " + statement, full.length() + 2);
     }
