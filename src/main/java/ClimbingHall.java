@@ -518,7 +518,7 @@ public final class ClimbingHall {
     }
 
     private static void needInt(long value) {
-        if (value < Integer.MIN_VALUE || value > Integer.MAX_VALUE) {
+        if (value != (int) value) {
             throw new ArithmeticException("the amount is not an int");
         }
     }

@@ -27,6 +27,7 @@ public final class AheadEdgesTest {
         promise45EachReason();
         promise46Numbers();
         promise46Need();
+        promise46FullCourses();
         promise46NoCourse();
         EXPECT.finish();
     }
@@ -405,6 +406,18 @@ public final class AheadEdgesTest {
         risen.answers("46: its own level", 0, hall -> hall.ladder(0, 1));
         risen.answers("46: from level 1", 0, hall -> hall.ladder(0, 2));
         risen.answers("46: from level 1", 195, hall -> hall.ladder(0, 3));
+    }
+
+    /** The need is that of the courses, whoever is in them and whatever seats are left. */
+    private static void promise46FullCourses() {
+        Edges edges = of("member 0 0;member 0 0;member 0 1;course 1 1 0;course 1 2 7;course 2 1 0;"
+                + "course 2 1 9");
+        edges.answers("46: the least of both", 0, hall -> hall.ladder(1, 2));
+        Edges taken = edges.after(hall -> hall.enroll(0, 0)).after(hall -> hall.enroll(2, 2));
+        taken.refused("46: no seat", Expect.STATE, hall -> hall.enroll(1, 0));
+        taken.answers("46: without a seat, too", 0, hall -> hall.ladder(1, 1));
+        taken.answers("46: without a seat, too", 0, hall -> hall.ladder(1, 2));
+        taken.answers("46: in the course", 0, hall -> hall.ladder(0, 2));
     }
 
     private static void promise46NoCourse() {

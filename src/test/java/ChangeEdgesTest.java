@@ -12,8 +12,10 @@ public final class ChangeEdgesTest {
         promise6TwentyFour();
         promise7Numbers();
         promise7Behind();
+        promise7AllPartsMoveUp();
         promise7ClosedWall();
         promise7ArchiveOfThirty();
+        promise7AllOfTheArchive();
         promise8Numbers();
         promise8Level();
         promise8Harness();
@@ -147,6 +149,62 @@ public final class ChangeEdgesTest {
         middle.answers("7: behind it", 13, hall -> hall.route(12, 1));
     }
 
+    /** Routes that differ in each part; without some of them, the others are as they were. */
+    private static void promise7AllPartsMoveUp() {
+        for (int number = 0; number < 5; number++) {
+            int removed = number;
+            ClimbingHall hall = differentRoutes();
+            ClimbingHall whole = differentRoutes();
+            EXPECT.equal("7: its grade", hall.removeRoute(removed), whole.grade(removed));
+            expectRows("7: removed " + removed, hall, whole, row -> row != removed);
+        }
+        ClimbingHall reset = differentRoutes();
+        // Wall 0, on which are routes 0, 2 and 4, is closed on day 7.
+        EXPECT.equal("17: the reset of one wall", reset.endDays(4), 3);
+        expectRows("17: behind a reset", reset, differentRoutes(), row -> row % 2 == 1);
+    }
+
+    /** Five routes, each set on its own day, climbed and voted for in its own way; day 4. */
+    private static ClimbingHall differentRoutes() {
+        ClimbingHall hall = Halls.of("rules 0 1 200;wall 3 0 7;wall 3 0 60;harness 0 60;harness 0 60;"
+                + "member 0 0;member 0 0");
+        hall.lend(0, 0);
+        hall.lend(1, 1);
+        for (int route = 0; route < 5; route++) {
+            hall.setRoute(route % 2, 25 - 5 * route);
+            Halls.climb(hall, route % 2, route, route + 1);
+            hall.climb(1 - route % 2, route);
+            hall.vote(route % 2, route, 3 * route);
+            if (route < 4) {
+                hall.vote(1 - route % 2, route, 29 - route);
+                hall.endDays(1);
+            }
+        }
+        return hall;
+    }
+
+    /** The rows that stay are one behind the other, with all that was theirs. */
+    private static void expectRows(String what, ClimbingHall hall, ClimbingHall whole,
+            java.util.function.IntPredicate stays) {
+        int row = 0;
+        for (int before = 0; before < whole.count(1); before++) {
+            if (!stays.test(before)) {
+                continue;
+            }
+            for (int part = 0; part < 7; part++) {
+                EXPECT.equal(what + ", route " + before + ", part " + part, hall.route(row, part),
+                        whole.route(before, part));
+            }
+            EXPECT.equal(what + ", grade", hall.grade(row), whole.grade(before));
+            for (int member = 0; member < 2; member++) {
+                EXPECT.equal(what + ", vote", Halls.voteOrNone(hall, member, row),
+                        Halls.voteOrNone(whole, member, before));
+            }
+            row++;
+        }
+        EXPECT.equal(what + ", no others", hall.count(1), row);
+    }
+
     private static void promise7ClosedWall() {
         Edges closed = FRESH.after(hall -> hall.setRoute(0, 8)).daysLater(7);
         closed.answers("7: closed", 1, hall -> hall.wall(0, 5));
@@ -175,6 +233,27 @@ public final class ChangeEdgesTest {
         full.answers("7: its climbs", 12, one -> one.archived(29, 3));
         full.answers("7: the first is gone", 1, one -> one.archived(0, 1));
         full.after(one -> one.undo()).answers("7: undone, it is back", 0, one -> one.archived(0, 1));
+    }
+
+    /** Routes that differ in all four parts; beyond 30 the archive moves on with all of them. */
+    private static void promise7AllOfTheArchive() {
+        ClimbingHall hall = Halls.of("rules 0 1 200;wall 3 0 50;wall 3 0 60;wall 3 0 50;harness 0 60;"
+                + "member 0 0");
+        hall.lend(0, 0);
+        for (int number = 0; number < 35; number++) {
+            hall.setRoute(number % 3, number % 10);
+            Halls.climb(hall, 0, 0, number % 4);
+            hall.removeRoute(0);
+            hall.endDays(1);
+        }
+        for (int index = 0; index < 30; index++) {
+            int number = index + 5;
+            int[] due = {number % 3, number % 10, number, number % 4};
+            for (int part = 0; part < due.length; part++) {
+                EXPECT.equal("25: the latest 30, " + index + ", part " + part,
+                        hall.archived(index, part), due[part]);
+            }
+        }
     }
 
     // ---- Promise 8
@@ -652,17 +731,17 @@ public final class ChangeEdgesTest {
     /** So many days at once are as good as one by one, but for the history. */
     private static void promise17ManyDaysAtOnce() {
         for (int days : new int[] {1, 2, 7, 8, 30, 59, 60}) {
-            ClimbingHall once = Halls.full();
-            ClimbingHall each = Halls.full();
-            int archived = once.endDays(days);
-            int sum = 0;
-            for (int day = 0; day < days; day++) {
-                sum += each.endDays(1);
-            }
-            EXPECT.equal("17: routes", archived, sum);
-            EXPECT.equal("17: all routes are gone after a reset", archived, days > 1 ? 24 : 0);
-            EXPECT.equal("17: the archive keeps 30", once.count(5), 30);
-            for (int portion = 0; portion < Halls.PORTIONS; portion += 3) {
+            for (int portion = 0; portion < Halls.PORTIONS; portion++) {
+                ClimbingHall once = Halls.full();
+                ClimbingHall each = Halls.full();
+                int archived = once.endDays(days);
+                int sum = 0;
+                for (int day = 0; day < days; day++) {
+                    sum += each.endDays(1);
+                }
+                EXPECT.equal("17: routes", archived, sum);
+                EXPECT.equal("17: all routes are gone after a reset", archived, days > 1 ? 24 : 0);
+                EXPECT.equal("17: the archive keeps 30", once.count(5), 30);
                 if (!Halls.portion(once, portion).equals(Halls.portion(each, portion))) {
                     EXPECT.report("17: " + days + " days at once are not as one by one");
                 }

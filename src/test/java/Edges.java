@@ -85,8 +85,9 @@ final class Edges {
                 ClimbingHall hall = maker.get();
                 call.accept(hall);
                 goBack(hall, undos);
+                // The buffer is checked last, so that a check that changed the hall would be seen.
                 seen.add(hall.undoCount() + " " + hall.append(0, 0, 0, 0, 0) + " "
-                        + hall.errorPosition() + " " + Halls.portion(hall, portion));
+                        + Halls.portion(hall, portion) + " " + hall.errorPosition());
             }
         }
         return seen;

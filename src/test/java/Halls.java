@@ -157,7 +157,8 @@ final class Halls {
         }
     }
 
-    private static int voteOrNone(ClimbingHall hall, int member, int route) {
+    /** The vote of a member for a route; NONE if it has not voted for it. */
+    static int voteOrNone(ClimbingHall hall, int member, int route) {
         try {
             return hall.voteOf(member, route);
         } catch (java.util.NoSuchElementException none) {

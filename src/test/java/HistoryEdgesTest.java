@@ -132,11 +132,19 @@ public final class HistoryEdgesTest {
             before.accept(undone);
             change.accept(undone);
             EXPECT.equal("19: after " + what, undone.undoCount(), 8);
+            expectBuffer("2: the buffer after " + what, undone);
             EXPECT.equal("18: undo of " + what, undone.undo(), 7);
+            expectBuffer("18: the buffer after the undo of " + what, undone);
             EXPECT.equal("18: all is back, " + what,
                     Halls.portion(undone, portion).equals(due) ? 1 : 0, 1);
         }
         EXPECT.equal("18: there was something to undo, " + what, changed ? 1 : 0, 1);
+    }
+
+    /** The buffer of a full hall has 600 bytes, which are a valid text. */
+    private static void expectBuffer(String what, ClimbingHall hall) {
+        EXPECT.equal(what + ", length", hall.append(0, 0, 0, 0, 0), 600);
+        EXPECT.equal(what + ", text", hall.errorPosition(), -1);
     }
 
     private static void promise18WithoutEffect() {
@@ -242,8 +250,10 @@ public final class HistoryEdgesTest {
         for (int portion = 0; portion < Halls.PORTIONS; portion++) {
             ClimbingHall hall = Halls.full();
             hall.save();
+            expectBuffer("20: the buffer after save", hall);
             hall.finish(7, -1);
             hall.restore();
+            expectBuffer("21: the buffer after restore", hall);
             EXPECT.equal("20: all of it, portion " + portion,
                     Halls.portion(hall, portion).equals(Halls.portion(Halls.full(), portion)) ? 1 : 0, 1);
         }

@@ -20,6 +20,7 @@ public final class RandomRunsTest {
     private final PlainHall plain = new PlainHall();
     private final List<Method> methods;
     private final StringBuilder calls = new StringBuilder();
+    private int made = 0;
     private static int compared = 0;
 
     private RandomRunsTest(long seed, List<Method> methods) {
@@ -57,7 +58,7 @@ public final class RandomRunsTest {
     private String wrongCall() throws Exception {
         String wrong = next(10) == 0 ? null : setUp();
         int busy = 2 + next(8);
-        for (int call = 0; call < CALLS && wrong == null; call++) {
+        while (made < CALLS && wrong == null) {
             wrong = next(100) == 0 ? text() : next(busy) > 0 ? likelyCall() : anyCall();
         }
         return wrong;
@@ -119,15 +120,15 @@ public final class RandomRunsTest {
 
     /** A call that the state is likely to allow, so that the hall becomes full of things. */
     private String likelyCall() throws Exception {
-        int member = next(1 + hall.count(3));
-        int route = next(1 + hall.count(1));
+        int member = next(1 + plain.count(3));
+        int route = next(1 + plain.count(1));
         switch (next(16)) {
-            case 0: case 1: return compare(named("setRoute"), next(1 + hall.count(0)), next(30));
-            case 2: case 3: return compare(named("lend"), member, next(1 + hall.count(2)));
+            case 0: case 1: return compare(named("setRoute"), next(1 + plain.count(0)), next(30));
+            case 2: case 3: return compare(named("lend"), member, next(1 + plain.count(2)));
             case 4: case 5: case 6: case 7: return climbAndVote(member);
-            case 8: return compare(named("check"), next(1 + hall.count(2)), next(6) > 0);
+            case 8: return compare(named("check"), next(1 + plain.count(2)), next(6) > 0);
             case 9: return compare(named("endDays"), 1 + next(next(8) == 0 ? 20 : 2));
-            case 10: return compare(named("enroll"), member, next(1 + hall.count(4)));
+            case 10: return compare(named("enroll"), member, next(1 + plain.count(4)));
             case 11: return compare(named("vote"), member, route, next(30));
             case 12: return compare(named("gradeWith"), route, next(30), 1 + next(20));
             case 13: return compare(named("meanGrade"), route, next(2) == 0);
@@ -137,17 +138,17 @@ public final class RandomRunsTest {
 
     private String climbAndVote(int member) throws Exception {
         String wrong = compare(named("allowedRoutes"), member);
-        if (wrong != null || member >= hall.count(3) || hall.allowedRoutes(member) == 0) {
+        if (wrong != null || member >= plain.count(3) || plain.allowedRoutes(member) == 0) {
             return wrong;
         }
-        int allowed = hall.allowedRoutes(member);
+        int allowed = plain.allowedRoutes(member);
         int route = next(24);
         while ((allowed >>> route & 1) == 0) {
             route = (route + 1) % 24;
         }
         wrong = compare(named("climb"), member, route);
         wrong = wrong != null ? wrong : compare(named("vote"), member, route, next(30));
-        wrong = wrong != null ? wrong : compare(named("voteOf"), next(1 + hall.count(3)), route);
+        wrong = wrong != null ? wrong : compare(named("voteOf"), next(1 + plain.count(3)), route);
         wrong = wrong != null ? wrong : compare(named("votesTo"), route, next(30));
         wrong = wrong != null ? wrong : compare(named("climbsLeft"), route);
         return wrong != null ? wrong : compare(named("disputed"));
@@ -155,12 +156,12 @@ public final class RandomRunsTest {
 
     private String partOfAnything() throws Exception {
         switch (next(6)) {
-            case 0: return compare(named("wall"), next(1 + hall.count(0)), next(6));
-            case 1: return compare(named("route"), next(1 + hall.count(1)), next(7));
-            case 2: return compare(named("harness"), next(1 + hall.count(2)), next(6));
-            case 3: return compare(named("member"), next(1 + hall.count(3)), next(6));
-            case 4: return compare(named("course"), next(1 + hall.count(4)), next(4));
-            default: return compare(named("archived"), next(1 + hall.count(5)), next(4));
+            case 0: return compare(named("wall"), next(1 + plain.count(0)), next(6));
+            case 1: return compare(named("route"), next(1 + plain.count(1)), next(7));
+            case 2: return compare(named("harness"), next(1 + plain.count(2)), next(6));
+            case 3: return compare(named("member"), next(1 + plain.count(3)), next(6));
+            case 4: return compare(named("course"), next(1 + plain.count(4)), next(4));
+            default: return compare(named("archived"), next(1 + plain.count(5)), next(4));
         }
     }
 
@@ -193,7 +194,12 @@ public final class RandomRunsTest {
         }
     }
 
+    /** The only place that calls the hall: what it answers after 512 calls is free. */
     private String compare(Method method, Object... arguments) throws Exception {
+        if (made == CALLS) {
+            return null;
+        }
+        made++;
         Method other = PlainHall.class.getMethod(method.getName(), method.getParameterTypes());
         compared++;
         String due = answer(other, plain, arguments);

@@ -19,6 +19,7 @@ public final class SetupEdgesTest {
         promise4FourDigits();
         promise4LeastAndGreatest();
         promise4TooManyElsewhere();
+        promise4AllThatThereCanBe();
         promise4FirstOfSeveral();
         promise4ChangesNothing();
         promise5LoadsLeastAndGreatest();
@@ -289,6 +290,22 @@ public final class SetupEdgesTest {
         ClimbingHall twice = withText(fewer);
         twice.errorPosition();
         EXPECT.equal("4: each check counts anew", twice.errorPosition(), -1);
+    }
+
+    /** A semicolon can go on then as anywhere else: what is wrong is the word behind it. */
+    private static void promise4AllThatThereCanBe() {
+        String all = Halls.many("wall 3 0 1", 8) + ";" + Halls.many("harness 0 1", 15) + ";"
+                + Halls.many("member 0 0", 12) + ";" + Halls.many("course 1 1 0", 8)
+                + ";rules 0 0 1";
+        expectError(all, -1);
+        expectError(all + " ", -1);
+        expectError(all + ";", all.length() + 1);
+        expectError(all + " ;  ", all.length() + 4);
+        expectError(all + "x", all.length());
+        for (String word : new String[] {"rules", "wall", "harness", "member", "course", "x", ";"}) {
+            expectError(all + "; " + word, all.length() + 2);
+            expectError(all + word, all.length() + (word.equals(";") ? 1 : 0));
+        }
     }
 
     private static void promise4FirstOfSeveral() {
